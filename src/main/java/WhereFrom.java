@@ -15,6 +15,8 @@ public final class WhereFrom {
     private static final int MOST_ACTS = 100;
     private static final int WEIGHED_FACTS = 16;
     private static final int MOST_COST = 1000000000;
+    /** What comes to rows at once: all facts to a BASE, or the answers of two questions to an EITHER. */
+    private static final int MOST_RAW = 64;
     /** A round of CLOSE brings to one row its own ways and, for each row it has, a union of every two. */
     private static final int MOST_GATHERED = MOST_WAYS + MOST_ANSWERS * MOST_WAYS * MOST_WAYS;
     /** Far above the some 32 rounds after which no least chain of 32 rows can be new. */
@@ -835,10 +837,7 @@ public final class WhereFrom {
 
         /** Sees to it that the row stands in its order; false if there is no room for it. */
         boolean insert(int[] row) {
-            int at = 0;
-            while (at < n && compare(rows[at].row, row) < 0) {
-                at++;
-            }
+            int at = notBefore(row);
             if (at < n && compare(rows[at].row, row) == 0) {
                 return true;
             }
@@ -854,13 +853,25 @@ public final class WhereFrom {
             return true;
         }
 
+        /** Which one is this row; NONE if there is none. */
         int spot(int[] row) {
-            for (int i = 0; i < n; i++) {
-                if (compare(rows[i].row, row) == 0) {
-                    return i;
+            int at = notBefore(row);
+            return at < n && compare(rows[at].row, row) == 0 ? at : NONE;
+        }
+
+        /** The first one that does not come before the row, by halves. */
+        private int notBefore(int[] row) {
+            int from = 0;
+            int to = n;
+            while (from < to) {
+                int middle = (from + to) / 2;
+                if (compare(rows[middle].row, row) < 0) {
+                    from = middle + 1;
+                } else {
+                    to = middle;
                 }
             }
-            return NONE;
+            return from;
         }
 
         int compare(int[] one, int[] other) {
@@ -973,6 +984,8 @@ public final class WhereFrom {
         Gathered gathered;
         Answers raw;
         Answers round;
+        /** For each of the raw ones the answer that it comes to. */
+        final int[] goal = new int[MOST_RAW];
         final int[] row = new int[MOST_PLACES];
 
         Asker(Facts facts, Question[] questions) {
@@ -995,7 +1008,7 @@ public final class WhereFrom {
         private void makeRoom() {
             if (gathered == null) {
                 gathered = new Gathered();
-                raw = new Answers(MOST_FACTS + MOST_ANSWERS);
+                raw = new Answers(MOST_RAW);
                 round = new Answers(MOST_ANSWERS);
             }
         }
@@ -1104,10 +1117,13 @@ public final class WhereFrom {
                     return false;
                 }
             }
+            for (int i = 0; i < raw.n; i++) {
+                goal[i] = out.spot(raw.rows[i].row);
+            }
             for (int t = 0; t < out.n; t++) {
                 gathered.clear();
                 for (int i = 0; i < raw.n; i++) {
-                    if (raw.compare(raw.rows[i].row, out.rows[t].row) == 0) {
+                    if (goal[i] == t) {
                         gathered.addWays(raw.rows[i]);
                         gathered.addReadings(raw.rows[i]);
                     }
@@ -1165,7 +1181,7 @@ public final class WhereFrom {
         private boolean workClose(Answers steps, Answers out) {
             out.takeAll(steps);
             for (int k = 0; k < MOST_ROUNDS; k++) {
-                if (!oneRound(steps, out)) {
+                if (!reach(steps, out) || !gatherRound(steps, out)) {
                     return false;
                 }
                 if (round.sameWays(out)) {
@@ -1177,69 +1193,69 @@ public final class WhereFrom {
             return true;
         }
 
-        /** Makes the round of the chains so far and the steps; false if it is MANY. */
-        private boolean oneRound(Answers steps, Answers chains) {
+        /** The rows of this round: those of the chains so far, and of each with one step more; false if MANY. */
+        private boolean reach(Answers steps, Answers chains) {
             round.clear(2);
             for (int i = 0; i < chains.n; i++) {
-                if (!round.insert(chains.rows[i].row) || !insertLonger(steps, chains.rows[i])) {
+                int[] chain = chains.rows[i].row;
+                if (!round.insert(chain)) {
                     return false;
                 }
+                for (int j = 0; j < steps.n; j++) {
+                    int[] step = steps.rows[j].row;
+                    row[0] = chain[0];
+                    row[1] = step[1];
+                    if (step[0] == chain[1] && !round.insert(row)) {
+                        return false;
+                    }
+                }
             }
+            return true;
+        }
+
+        /** The ways of this round's rows; false if MANY. */
+        private boolean gatherRound(Answers steps, Answers chains) {
             for (int t = 0; t < round.n; t++) {
-                if (!gatherChains(steps, chains, round.rows[t])) {
+                gatherChains(steps, chains, round.rows[t].row);
+                if (!gathered.giveWays(round.rows[t])) {
                     return false;
                 }
             }
             return true;
         }
 
-        private boolean insertLonger(Answers steps, Answer chain) {
-            for (int j = 0; j < steps.n; j++) {
-                if (steps.rows[j].row[0] != chain.row[1]) {
+        private void gatherChains(Answers steps, Answers chains, int[] to) {
+            gathered.clear();
+            for (int i = 0; i < chains.n; i++) {
+                Answer chain = chains.rows[i];
+                if (chain.row[0] != to[0]) {
                     continue;
                 }
-                setRow(chain.row[0], steps.rows[j].row[1]);
-                if (!round.insert(row)) {
-                    return false;
+                if (chain.row[1] == to[1]) {
+                    gathered.addWays(chain);
                 }
-            }
-            return true;
-        }
-
-        private boolean gatherChains(Answers steps, Answers chains, Answer to) {
-            gathered.clear();
-            Answer before = chains.at(chains.spot(to.row));
-            if (before != null) {
-                gathered.addWays(before);
-            }
-            for (int i = 0; i < chains.n; i++) {
-                Answer step = lastStep(steps, chains.rows[i], to);
+                Answer step = stepOf(steps, chain.row[1], to[1]);
                 if (step != null) {
-                    gathered.addUnions(chains.rows[i], step);
+                    gathered.addUnions(chain, step);
                 }
             }
-            return gathered.giveWays(to);
         }
 
-        /** The step from the chain's end to the end of another row of the same beginning; null if there is none. */
-        private Answer lastStep(Answers steps, Answer chain, Answer to) {
-            if (chain.row[0] != to.row[0]) {
-                return null;
+        private static Answer stepOf(Answers steps, int from, int to) {
+            for (int j = 0; j < steps.n; j++) {
+                int[] step = steps.rows[j].row;
+                if (step[0] == from && step[1] == to) {
+                    return steps.rows[j];
+                }
             }
-            setRow(chain.row[1], to.row[1]);
-            return steps.at(steps.spot(row));
-        }
-
-        private void setRow(int first, int second) {
-            row[0] = first;
-            row[1] = second;
+            return null;
         }
 
         /** The readings can go on changing when the ways don't any more, so they have rounds of their own. */
         private void weighChains(Answers steps, Answers out) {
             for (int t = 0; t < out.n; t++) {
                 Answer chain = out.rows[t];
-                Answer step = steps.at(steps.spot(chain.row));
+                Answer step = stepOf(steps, chain.row[0], chain.row[1]);
                 chain.count = 0L;
                 chain.cost = step == null ? MOST_COST : step.cost;
                 chain.trust = step == null ? 0L : step.trust;
@@ -1257,10 +1273,11 @@ public final class WhereFrom {
             int cost = to.cost;
             long trust = to.trust;
             for (int i = 0; i < chains.n; i++) {
-                Answer step = lastStep(steps, chains.rows[i], to);
+                Answer chain = chains.rows[i];
+                Answer step = chain.row[0] == to.row[0] ? stepOf(steps, chain.row[1], to.row[1]) : null;
                 if (step != null) {
-                    cost = Math.min(cost, costOfBoth(chains.rows[i].cost, step.cost));
-                    trust = Math.max(trust, Math.min(chains.rows[i].trust, step.trust));
+                    cost = Math.min(cost, costOfBoth(chain.cost, step.cost));
+                    trust = Math.max(trust, Math.min(chain.trust, step.trust));
                 }
             }
             boolean better = cost != to.cost || trust != to.trust;

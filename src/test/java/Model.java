@@ -23,7 +23,9 @@ final class Model {
         double trust;
     }
 
-    static final class Many extends Exception { }
+    static final class Many extends Exception {
+        private static final long serialVersionUID = 1L;
+    }
 
     static final class State {
         List<Integer> tables = new ArrayList<>();
