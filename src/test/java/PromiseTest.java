@@ -23,6 +23,7 @@ public final class PromiseTest {
         p12();
         p13();
         p13Rounds();
+        p13Backwards();
         p14();
         p15();
         p16();
@@ -44,6 +45,7 @@ public final class PromiseTest {
         p36Hundred();
         p37();
         p38();
+        p38Accepted();
         C.end();
     }
 
@@ -283,6 +285,10 @@ public final class PromiseTest {
         ways(x, "cut", 0, 4);
         yes(x, "ask", x.ask(3), 3);
         row(x, "cut", 2, 3, 3, 3, 1);
+        yes(x, "four again", x.cut(0, 4, 0, 0, 0, 1), 4);
+        yes(x, "the others are free", x.cut(0, 2, 1, 0, -1, -1), 5);
+        yes(x, "ask", x.ask(4), 3);
+        row(x, "cut", 1, 1, 1, 1, 3);
         // Ways of a row that hold those of another one that comes to it are not least.
         WhereFrom y = pairs(1, 1, 1, 2);
         int joined = y.pair(0, 0, 0, 0);
@@ -410,6 +416,34 @@ public final class PromiseTest {
         yes(y, "ask", y.ask(closed), 3);
         ways(y, "one way", 1, 1);
         C.due("two times the fact", y.cost(1), 14);
+    }
+
+    /** Steps 9-8, 8-7 .. 2-1: a chain's shorter part always comes behind it in the order of the rows. */
+    private static void p13Backwards() {
+        WhereFrom x = new WhereFrom();
+        x.table(2);
+        for (int k = 0; k < 5; k++) {
+            x.fact(0, k == 0 ? 0 : 10 - k, 9 - k, 0, 0);
+            x.put(k, 1, k + 1);
+            x.put(k, 2, 0);
+        }
+        x.close(x.base(0));
+        yes(x, "ask", x.ask(1), 15);
+        C.due("the last one comes first", x.value(0, 1), 5);
+        C.due("COST of all five", x.cost(0), 15);
+        C.due("TRUST of all five", x.trust(0), 0);
+        C.due("COST of four", x.cost(x.find(0, 6, 0, 0, 0, 0)), 10);
+        // Steps of no cost and a quarter of trust to all ends: the COST is there at once, the TRUST by the chains.
+        for (int k = 0; k < 5; k++) {
+            x.put(k, 2, k == 3 ? HALF : ONE);
+            x.fact(0, 0, 9 - k, 0, 0);
+            x.put(5 + k, 1, 0);
+            x.put(5 + k, 2, QUARTER);
+        }
+        yes(x, "ask", x.ask(1), 15);
+        C.due("COST of the single step", x.cost(0), 0);
+        C.due("TRUST of the chain", x.trust(0), HALF);
+        C.due("TRUST of its beginning", x.trust(x.find(0, 7, 0, 0, 0, 0)), ONE);
     }
 
     private static void p14() {
@@ -1169,6 +1203,8 @@ public final class PromiseTest {
         C.due("a new table leaves them", y.size(3), 1);
         y.undo();
         C.due("a table that goes takes them", y.size(3), 0);
+        C.due("but no facts", y.size(1), 1);
+        C.due("and no questions", y.size(2), 1);
     }
 
     private static void p36Hundred() {
@@ -1241,5 +1277,48 @@ public final class PromiseTest {
         C.due("1", x.status(), 1);
         x.drop(0, false);
         C.due("0", x.status(), 0);
+    }
+
+    /** Whatever was refused before: behind a call that is accepted it is 0. */
+    private static void p38Accepted() {
+        WhereFrom x = new WhereFrom();
+        for (int call = 0; call < 27; call++) {
+            x.table(0);
+            C.due("refused", x.status(), 2);
+            accepted(x, call);
+            C.due("status behind accepted call " + call, x.status(), 0);
+        }
+    }
+
+    private static void accepted(WhereFrom x, int call) {
+        switch (call) {
+            case 0 -> C.due("table", x.table(2), 0);
+            case 1 -> C.due("fact", x.fact(0, 1, 2, 0, 0), 0);
+            case 2 -> C.due("drop", x.drop(0, false), true);
+            case 3 -> C.due("put", x.put(0, 0, 2), true);
+            case 4 -> C.due("base", x.base(0), 0);
+            case 5 -> C.due("pick", x.pick(0, 0, 1), 1);
+            case 6 -> C.due("like", x.like(0, 0, 1), 2);
+            case 7 -> C.due("cut", x.cut(0, 1, 0, 0, 0, 0), 3);
+            case 8 -> C.due("pair", x.pair(0, 0, 0, 0), 4);
+            case 9 -> C.due("either", x.either(0, 0), 5);
+            case 10 -> C.due("close", x.close(0), 6);
+            case 11 -> C.due("most", x.most(0, 2), 7);
+            case 12 -> C.due("ask", x.ask(7), 1);
+            case 13 -> C.due("count", x.count(0), 2);
+            case 14 -> C.due("cost", x.cost(0), 1);
+            case 15 -> C.due("trust", x.trust(0), ONE);
+            case 16 -> C.due("stays", x.stays(0), 1);
+            case 17 -> C.due("with", x.with(0, 0L), 0);
+            case 18 -> C.due("chance", x.chance(0), WHOLE / 2);
+            case 19 -> C.due("share", x.share(0, 0), WHOLE);
+            case 20 -> C.due("least", x.least(0), 1);
+            case 21 -> C.due("blame", x.blame(0, 0), 0);
+            case 22 -> C.due("lay", x.lay(0, 3, 0), 1);
+            case 23 -> C.due("lies", x.lies(0), 3);
+            case 24 -> C.due("taken", x.taken(0, 3, 1), 2);
+            case 25 -> C.due("copy", x.copy(0, 0, 0, 1, 1), 1);
+            default -> C.due("lay nothing", x.lay(0, 0, 0), 1);
+        }
     }
 }
