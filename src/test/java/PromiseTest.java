@@ -37,6 +37,7 @@ public final class PromiseTest {
         p29();
         p30();
         p31();
+        sixteenWays();
         p32();
         p33();
         p34();
@@ -581,6 +582,7 @@ public final class PromiseTest {
         yes(z, "25 unions, 5 least", z.ask(2), 1);
         C.due("5 least", z.ways(0), 5);
         manyInRounds();
+        manyInOneRound();
         manyThatMelt();
     }
 
@@ -639,6 +641,33 @@ public final class PromiseTest {
         return x;
     }
 
+    /**
+     * 1-3, 1-4, 1-5 and from there to 2 by 16 ways each, with h in all of the first ones: 768 least ways come to the
+     * chain 1-2, then z by way of 6, and h by way of 7, which leaves z and h alone.
+     */
+    private static void manyInOneRound() {
+        WhereFrom x = new WhereFrom();
+        for (int t = 0; t < 4; t++) {
+            x.table(2);
+            for (int k = 0; k < 12; k++) {
+                x.fact(t, t < 2 ? 1 : 3 + k % 3, t < 2 ? 3 + k % 3 : 2, 0, 0);
+            }
+        }
+        x.table(3);
+        int h = x.fact(4, 1, 7, 2, 0);
+        int z = x.fact(4, 1, 6, 2, 0);
+        int first = x.cut(x.pair(x.base(0), x.base(1), 1, 1), 2, 0, 1, 0, 0);
+        int second = x.cut(x.pair(x.base(2), x.base(3), 0, 0), 2, 0, 1, 0, 0);
+        int both = x.base(4);
+        int firstWithH = x.cut(x.pair(first, x.pick(both, 1, 7), 0, 0), 2, 0, 1, 0, 0);
+        int round = x.either(x.cut(both, 2, 0, 1, 0, 0), x.cut(both, 2, 1, 2, 0, 0));
+        int steps = x.either(x.either(firstWithH, second), round);
+        yes(x, "the steps", x.ask(steps), 10);
+        C.due("16 ways of a step", x.ways(0), 16);
+        yes(x, "the chains", x.ask(x.close(steps)), 11);
+        ways(x, "z and h", x.find(1, 2, 0, 0, 0, 0), 1L << h, 1L << z);
+    }
+
     /** More than 16 ways come to a row of CUT, but the least ones are few: asked of these alone. */
     private static void manyThatMelt() {
         WhereFrom x = new WhereFrom();
@@ -672,6 +701,32 @@ public final class PromiseTest {
         y.pair(4, 4, 0, 0);
         yes(y, "ask", y.ask(5), 1);
         C.due("5 least ones of 25", y.ways(0), 5);
+        hundredsThatMelt();
+    }
+
+    /** 30 rows of 16 ways, with h in all of them, then z and h by themselves: 482 come to one row, and two are left. */
+    private static void hundredsThatMelt() {
+        WhereFrom x = new WhereFrom();
+        x.table(2);
+        x.table(2);
+        x.table(2);
+        for (int k = 0; k < 24; k++) {
+            x.fact(0, 1, k % 6, 0, 0);
+        }
+        for (int k = 0; k < 20; k++) {
+            x.fact(1, 1, k % 5, 0, 0);
+        }
+        int h = x.fact(2, 1, 99, 0, 0);
+        int z = x.fact(2, 1, 98, 0, 0);
+        int both = x.base(2);
+        int justH = x.cut(x.pick(both, 1, 99), 1, 0, 0, 0, 0);
+        int wide = x.pair(x.pair(x.base(0), x.base(1), 0, 0), justH, 0, 0);
+        int all = x.either(x.cut(wide, 3, 0, 1, 3, 0), x.cut(both, 3, 0, 1, 1, 0));
+        yes(x, "32 rows", x.ask(all), 32);
+        C.due("16 ways", x.ways(29), 16);
+        yes(x, "one row", x.ask(x.cut(all, 1, 0, 0, 0, 0)), 1);
+        ways(x, "z and h", 0, 1L << h, 1L << z);
+        C.due("COUNT of all", x.count(0), 482);
     }
 
     private static void p17to21() {
@@ -1009,6 +1064,27 @@ public final class PromiseTest {
         WhereFrom y = pairs(1, 2, 1, 2, 1, 2);
         y.ask(0);
         yes(y, "the two others must go", y.blame(0, 1), 2);
+    }
+
+    /** As many ways as an answer can have. */
+    private static void sixteenWays() {
+        WhereFrom x = new WhereFrom();
+        x.table(2);
+        for (int k = 0; k < 16; k++) {
+            x.fact(0, 1, 2, 0, 0);
+        }
+        x.close(x.base(0));
+        for (int q = 0; q < 2; q++) {
+            yes(x, "ask", x.ask(q), 1);
+            C.due("the last way", x.way(0, 15), 32768);
+            C.due("no further one", x.way(0, 16), 0);
+            C.due("none is needed", x.need(0), 0);
+            yes(x, "chance of one in sixteen", x.chance(0), WHOLE - 4294967296L);
+            yes(x, "share of one in sixteen", x.share(0, 15), 4294967296L * 2);
+            yes(x, "all must go", x.least(0), 65535);
+            yes(x, "all others must go", x.blame(0, 15), 15);
+            yes(x, "with the last one", x.with(0, 32768), 1);
+        }
     }
 
     private static void p32() {
