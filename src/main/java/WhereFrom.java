@@ -787,7 +787,7 @@ public final class WhereFrom {
         }
     }
 
-    /** Answers of one width; their slots are made when first used, and used again. */
+    /** Answers of one width; their slots are made with them, and used again: no call makes any. */
     private static final class Answers {
         final Answer[] rows;
         int n;
@@ -795,6 +795,9 @@ public final class WhereFrom {
 
         Answers(int room) {
             rows = new Answer[room];
+            for (int i = 0; i < room; i++) {
+                rows[i] = new Answer();
+            }
         }
 
         void clear(int width) {
@@ -810,9 +813,6 @@ public final class WhereFrom {
         Answer grow() {
             if (n >= rows.length) {
                 return null;
-            }
-            if (rows[n] == null) {
-                rows[n] = new Answer();
             }
             n++;
             return rows[n - 1];
@@ -979,11 +979,11 @@ public final class WhereFrom {
     private static final class Asker {
         final Facts facts;
         final Question[] questions;
+        /** A room for each question, as all forty may be within the asked one. */
         final Answers[] worked = new Answers[MOST_QUESTIONS];
-        /** Made at the first ask(): an object that is never asked has no need of them. */
-        Gathered gathered;
-        Answers raw;
-        Answers round;
+        final Gathered gathered = new Gathered();
+        final Answers raw = new Answers(MOST_RAW);
+        final Answers round = new Answers(MOST_ANSWERS);
         /** For each of the raw ones the answer that it comes to. */
         final int[] goal = new int[MOST_RAW];
         final int[] row = new int[MOST_PLACES];
@@ -991,11 +991,13 @@ public final class WhereFrom {
         Asker(Facts facts, Question[] questions) {
             this.facts = facts;
             this.questions = questions;
+            for (int k = 0; k < MOST_QUESTIONS; k++) {
+                worked[k] = new Answers(MOST_ANSWERS);
+            }
         }
 
         /** The answers, or null if they are MANY. */
         Answers answersTo(int question) {
-            makeRoom();
             long wanted = allWithin(question);
             for (int k = 0; k <= question; k++) {
                 if (has(wanted, k) && !workOut(k)) {
@@ -1003,14 +1005,6 @@ public final class WhereFrom {
                 }
             }
             return worked[question];
-        }
-
-        private void makeRoom() {
-            if (gathered == null) {
-                gathered = new Gathered();
-                raw = new Answers(MOST_RAW);
-                round = new Answers(MOST_ANSWERS);
-            }
         }
 
         /** The question and those within it, as bits; each is of earlier ones alone. */
@@ -1031,9 +1025,6 @@ public final class WhereFrom {
 
         private boolean workOut(int k) {
             Question q = questions[k];
-            if (worked[k] == null) {
-                worked[k] = new Answers(MOST_ANSWERS);
-            }
             Answers out = worked[k];
             out.clear(q.places);
             raw.clear(q.places);
@@ -1042,9 +1033,6 @@ public final class WhereFrom {
             }
             Answers one = worked[q.one];
             Answers other = q.other == NONE ? one : worked[q.other];
-            if (one == null || other == null) {
-                return false;
-            }
             switch (q.sort) {
                 case CUT:
                     return workCut(q, one, out);
