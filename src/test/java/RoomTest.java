@@ -206,7 +206,7 @@ public final class RoomTest {
     }
 
     private static void refusedAsk(WhereFrom x, int question) {
-        String ask = "the first ask() of an object, refused";
+        String ask = "an ask() refused as MANY";
         C.due(ask, made(ask, () -> x.ask(question)), -1);
         C.due("status behind " + ask, x.status(), 5);
     }
