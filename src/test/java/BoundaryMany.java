@@ -30,6 +30,7 @@ final class BoundaryMany {
         leastOnesAlone();
         leastOfUnions();
         leastOfRows();
+        leastInAnyOrder();
     }
 
     /** Asked and answered, or refused as MANY with all else as it was. */
@@ -137,6 +138,10 @@ final class BoundaryMany {
         many("EITHER of 16 and 17 rows", above, above.either(0, 1));
         WhereFrom like = twoTables(30, 30, 2);
         asked("EITHER of 30 and 30 rows, 28 of them alike", like, like.either(0, 1), 32);
+        WhereFrom full = Boundary.unlikeRows(32);
+        asked("EITHER of 32 rows and the same 32", full, full.either(0, 0), 32);
+        b.due("COUNT of the first one", full.count(0), 2);
+        b.due("COUNT of the last one", full.count(31), 2);
         WhereFrom most = twoTables(30, 30, 3);
         many("EITHER of 30 and 30 rows, 27 of them alike", most, most.either(0, 1));
     }
@@ -455,5 +460,29 @@ final class BoundaryMany {
         b.ways(x, 0, 1L << h);
         asked("as there: LIKE", x, x.like(all, 1, 1), 21);
         b.ways(x, 0, 1L << h | 1L);
+    }
+
+    private void leastInAnyOrder() {
+        b.says(16, "CUT, EITHER: the least ones of all WAYS of all that come to it", "sets of FACTS, none of which is within another one:");
+        // In order of the rows there come {0, 1}, {2}, {0}, {2, 3}: the first one goes from ahead of another, the last one does not come in.
+        WhereFrom x = new WhereFrom();
+        x.table(2);
+        x.table(2);
+        x.fact(0, 1, 13, 0, 0);
+        x.fact(1, 1, 11, 0, 0);
+        x.fact(0, 1, 12, 0, 0);
+        x.fact(1, 1, 14, 0, 0);
+        x.base(0);
+        x.base(1);
+        int first = x.cut(x.pair(x.pick(1, 1, 11), x.pick(0, 1, 13), 0, 0), 2, 0, 1, 0, 0);
+        int last = x.cut(x.pair(x.pick(1, 1, 14), x.pick(0, 1, 12), 0, 0), 2, 0, 1, 0, 0);
+        int all = x.either(x.either(first, last), 0);
+        asked("the rows", x, all, 4);
+        b.ways(x, 0, 3);
+        b.ways(x, 1, 4);
+        b.ways(x, 2, 1);
+        b.ways(x, 3, 12);
+        asked("the CUT of them", x, x.cut(all, 1, 0, 0, 0, 0), 1);
+        b.ways(x, 0, 1, 4);
     }
 }

@@ -31,6 +31,7 @@ final class BoundaryQuestions {
         eitherRefused();
         closeRows();
         closeRounds();
+        closeLastRound();
         closeRefused();
         mostRows();
         mostRefused();
@@ -185,6 +186,9 @@ final class BoundaryQuestions {
         b.row(x, 1, 9, 9, 9, 1);
         b.yes(x, "ask of one place told four times", x.ask(3), 1);
         b.row(x, 0, 1, 1, 1, 1);
+        b.yes(x, "cut to four, the last one last", x.cut(0, 4, 0, 1, 2, 3), 4);
+        b.yes(x, "ask of it", x.ask(4), 2);
+        b.row(x, 0, 1, 2, 3, 4);
         // The last place of six.
         WhereFrom y = Boundary.rows(3, 1, 2, 3);
         y.pair(0, 0, 0, 0);
@@ -243,13 +247,16 @@ final class BoundaryQuestions {
         b.yes(x, "ask", x.ask(1), 1);
         b.row(x, 0, MAX, MIN, MIN, 5);
         b.ways(x, 0, 3);
+        b.yes(x, "pair by the first and the last place", x.pair(0, 0, 0, 1), 2);
+        b.yes(x, "ask", x.ask(2), 1);
+        b.row(x, 0, MIN, 5, MAX, MIN);
         x.pick(0, 0, 0);
-        b.yes(x, "pair with one without answers", x.pair(0, 2, 0, 0), 3);
-        b.yes(x, "ask", x.ask(3), 0);
-        b.yes(x, "pair of one without answers", x.pair(2, 0, 0, 0), 4);
+        b.yes(x, "pair with one without answers", x.pair(0, 3, 0, 0), 4);
         b.yes(x, "ask", x.ask(4), 0);
-        b.yes(x, "pair of two without answers", x.pair(2, 2, 0, 0), 5);
+        b.yes(x, "pair of one without answers", x.pair(3, 0, 0, 0), 5);
         b.yes(x, "ask", x.ask(5), 0);
+        b.yes(x, "pair of two without answers", x.pair(3, 3, 0, 0), 6);
+        b.yes(x, "ask", x.ask(6), 0);
         WhereFrom apart = Boundary.rows(2, 1, 2, 3, 4);
         b.yes(apart, "pair where no two are alike", apart.pair(0, 0, 1, 0), 1);
         b.yes(apart, "ask", apart.ask(1), 0);
@@ -406,6 +413,28 @@ final class BoundaryQuestions {
         ring.close(0);
         b.yes(ring, "ask", ring.ask(1), 4);
         b.ways(ring, ring.find(1, 2, 0, 0, 0, 0), 1);
+        b.ways(ring, ring.find(2, 1, 0, 0, 0, 0), 2);
+    }
+
+    private void closeLastRound() {
+        b.says(13, "until a round changes nothing (of WAYS and ANSWERS).");
+        // 1-2 by facts 0 and 1, 2-0 by fact 2; 1-5, 5-6, 6-0 by fact 0 alone: the last round puts one way of 1-0 for another one.
+        WhereFrom x = new WhereFrom();
+        x.table(4);
+        x.table(2);
+        x.fact(0, 1, 5, 6, 0);
+        x.fact(1, 1, 2, 0, 0);
+        x.fact(1, 2, 0, 0, 0);
+        x.base(0);
+        x.base(1);
+        int first = x.cut(x.pair(x.cut(0, 1, 0, 0, 0, 0), 1, 0, 0), 2, 1, 2, 0, 0);
+        int line = x.either(x.cut(0, 2, 0, 1, 0, 0), x.either(x.cut(0, 2, 1, 2, 0, 0), x.cut(0, 2, 2, 3, 0, 0)));
+        int steps = x.either(x.either(first, x.pick(1, 0, 2)), line);
+        b.yes(x, "the rows", x.ask(steps), 5);
+        b.ways(x, x.find(1, 2, 0, 0, 0, 0), 3);
+        b.yes(x, "the chains", x.ask(x.close(steps)), 8);
+        b.row(x, 0, 1, 0);
+        b.ways(x, 0, 1);
     }
 
     private void closeRefused() {

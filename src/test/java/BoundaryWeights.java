@@ -28,6 +28,7 @@ final class BoundaryWeights {
         costOfChainsAtTheBound();
         costOfNone();
         trustAlong();
+        chainsAgainstTheOrder();
         trustOfNone();
         weightsAtAsk();
         asTheFirstOnes();
@@ -280,6 +281,45 @@ final class BoundaryWeights {
         chains.put(0, 2, 0);
         chains.ask(1);
         b.yes(chains, "the greatest of three that are none", chains.trust(chains.find(1, 4, 0, 0, 0, 0)), 0);
+        WhereFrom two = Boundary.rows(2, 1, 2, 2, 3);
+        two.put(0, 2, 0);
+        two.close(0);
+        two.ask(1);
+        b.yes(two, "none, of a chain that no row goes along", two.trust(two.find(1, 3, 0, 0, 0, 0)), 0);
+    }
+
+    /** Steps 9-8, 8-7 .. 5-4: each shorter part of a chain stands behind it in the order of the rows. */
+    private static WhereFrom backwards() {
+        WhereFrom x = Boundary.rows(2, 9, 8, 8, 7, 7, 6, 6, 5, 5, 4);
+        x.close(0);
+        return x;
+    }
+
+    private void chainsAgainstTheOrder() {
+        b.says(24, "in CLOSE the greatest of all chains' leasts.", "in CLOSE the least of all chains (each chain's sum, likewise).");
+        WhereFrom costs = backwards();
+        for (int k = 0; k < 5; k++) {
+            costs.put(k, 1, k + 1);
+            costs.put(k, 2, 0);
+        }
+        b.yes(costs, "ask, with no TRUST anywhere", costs.ask(1), 15);
+        int far = costs.find(9, 4, 0, 0, 0, 0);
+        b.yes(costs, "COST of all five", costs.cost(far), 15);
+        b.yes(costs, "TRUST of all five", costs.trust(far), 0);
+        // Rows 9-7 .. 9-4 that cost nothing and are of little trust: the chains change the TRUST alone.
+        WhereFrom trusts = backwards();
+        for (int k = 0; k < 5; k++) {
+            trusts.put(k, 2, k == 3 ? HALF : ONE);
+        }
+        for (int k = 0; k < 4; k++) {
+            trusts.fact(0, 9, 7 - k, 0, 0);
+            trusts.put(5 + k, 1, 0);
+            trusts.put(5 + k, 2, 1);
+        }
+        b.yes(trusts, "ask", trusts.ask(1), 15);
+        b.yes(trusts, "COST of the row", trusts.cost(far), 0);
+        b.yes(trusts, "TRUST of the chain of five", trusts.trust(far), HALF);
+        b.yes(trusts, "TRUST of the chain of three", trusts.trust(trusts.find(9, 6, 0, 0, 0, 0)), ONE);
     }
 
     private void trustOfNone() {
@@ -355,6 +395,18 @@ final class BoundaryWeights {
         shared.ask(1);
         shared.put(0, 3, 1);
         b.yes(shared, "an eighth of three quarters", shared.chance(0), WHOLE / 32 * 3);
+        // Two ways apart: 0 and 1, or 2 and 3.
+        WhereFrom apart = Boundary.rows(2, 1, 2, 2, 9, 1, 3, 3, 9);
+        apart.close(0);
+        apart.ask(1);
+        int i = apart.find(1, 9, 0, 0, 0, 0);
+        b.ways(apart, i, 3, 12);
+        b.yes(apart, "one of two quarters at least", apart.chance(i), WHOLE / 16 * 7);
+        apart.put(1, 3, 0);
+        b.yes(apart, "the first way surely not", apart.chance(i), WHOLE / 4);
+        apart.put(2, 3, 8);
+        apart.put(3, 3, 8);
+        b.yes(apart, "the second way surely", apart.chance(i), WHOLE);
     }
 
     private void chanceOfSixteenFacts() {
