@@ -26,6 +26,7 @@ final class BoundaryMany {
         waysOfPair();
         waysOfClose();
         waysBehindARound();
+        hundredsInARound();
         waysWithin();
         leastOnesAlone();
         leastOfUnions();
@@ -387,6 +388,50 @@ final class BoundaryMany {
         b.ways(at, at.find(1, 3, 0, 0, 0, 0), 1);
         WhereFrom above = rounds(5);
         many("20 ways behind the second round, one behind the third", above, above.size(2) - 1);
+    }
+
+    private void hundredsInARound() {
+        b.says(16, "(likewise; asked of the least ones of all that come to it).", "(of CLOSE behind any round, too)");
+        WhereFrom at = hundreds(3, 5);
+        asked("784 ways come in the second round, 16 of them are least", at, at.size(2) - 1, 16);
+        b.ways(at, at.find(1, 2, 0, 0, 0, 0), 1L, 2L);
+        WhereFrom above = hundreds(4, 4);
+        many("785 ways come in the second round, 17 of them are least; two in the third", above, above.size(2) - 1);
+    }
+
+    /**
+     * From 1 to 2, in the second round: by 3, 4 and 5 in 256 ways each, all with h (fact 0); then by 6 in some times others
+     * ways, all with g (fact 1); then by 7 in h alone, which leaves h and those by 6. In the third round, by 8 and 9, in g alone.
+     */
+    private static WhereFrom hundreds(int some, int others) {
+        WhereFrom x = new WhereFrom();
+        x.table(4);
+        x.table(4);
+        x.fact(0, 1, 7, 2, 0);
+        x.fact(1, 1, 8, 9, 2);
+        for (int t = 2; t < 6; t++) {
+            x.table(2);
+            for (int k = 0; k < 12; k++) {
+                x.fact(t, t < 4 ? 1 : 3 + k % 3, t < 4 ? 3 + k % 3 : 2, 0, 0);
+            }
+        }
+        x.table(2);
+        x.table(2);
+        for (int k = 0; k < some + others; k++) {
+            x.fact(k < some ? 6 : 7, k < some ? 1 : 6, k < some ? 6 : 2, 0, 0);
+        }
+        int h = x.base(0);
+        int g = x.base(1);
+        int first = x.cut(x.pair(x.base(2), x.base(3), 1, 1), 2, 0, 1, 0, 0);
+        int second = x.cut(x.pair(x.base(4), x.base(5), 0, 0), 2, 0, 1, 0, 0);
+        int steps = x.either(x.cut(x.pair(first, h, 0, 0), 2, 0, 1, 0, 0), second);
+        steps = x.either(steps, x.either(x.cut(x.pair(x.base(6), g, 0, 0), 2, 0, 1, 0, 0), x.base(7)));
+        steps = x.either(steps, x.either(x.cut(h, 2, 0, 1, 0, 0), x.cut(h, 2, 1, 2, 0, 0)));
+        for (int k = 0; k < 3; k++) {
+            steps = x.either(steps, x.cut(g, 2, k, k + 1, 0, 0));
+        }
+        x.close(steps);
+        return x;
     }
 
     private void waysWithin() {
