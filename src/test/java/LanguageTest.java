@@ -9,7 +9,9 @@ import java.util.ArrayList;
 import java.util.Arrays;
 import java.util.HashSet;
 import java.util.List;
+import java.util.Map;
 import java.util.Set;
+import java.util.TreeMap;
 import java.util.TreeSet;
 import java.util.regex.Matcher;
 import java.util.regex.Pattern;
@@ -28,6 +30,7 @@ public final class LanguageTest {
         members();
         words(bare(source));
         methods(source);
+        depth(calledBy(bare(source)));
         C.end();
     }
 
@@ -133,5 +136,53 @@ public final class LanguageTest {
                 start = -1;
             }
         }
+    }
+
+    /** By the name of each method and constructor the names that it calls, the library's too. */
+    private static Map<String, Set<String>> calledBy(String bare) {
+        Map<String, Set<String>> called = new TreeMap<>();
+        Pattern head = Pattern.compile("^( {4}| {8})(?:(?:public|private|static|final) )*(?:[\\w\\[\\]]+ )?(\\w+)\\([^;]*\\{$");
+        String method = null;
+        String indent = "";
+        for (String line : bare.split("\n")) {
+            Matcher opens = head.matcher(line);
+            if (method == null && opens.find()) {
+                indent = opens.group(1);
+                method = opens.group(2);
+                called.putIfAbsent(method, new TreeSet<>());
+            } else if (method != null && line.equals(indent + "}")) {
+                method = null;
+            } else if (method != null) {
+                Matcher call = Pattern.compile("\\b(\\w+)\\(").matcher(line);
+                while (call.find()) {
+                    called.get(method).add(call.group(1));
+                }
+            }
+        }
+        return called;
+    }
+
+    /** Rule 11: "calls that are no recursion go at most eight deep". */
+    private static void depth(Map<String, Set<String>> called) {
+        for (Method m : WhereFrom.class.getDeclaredMethods()) {
+            C.holds(m.getName() + " was found in the source", m.isSynthetic() || called.containsKey(m.getName()));
+        }
+        for (String method : called.keySet()) {
+            List<String> deepest = deepest(called, method, new ArrayList<>());
+            C.holds("calls at most eight deep: " + deepest, deepest.size() <= 8);
+        }
+    }
+
+    private static List<String> deepest(Map<String, Set<String>> called, String method, List<String> open) {
+        open.add(method);
+        List<String> below = new ArrayList<>();
+        for (String next : called.getOrDefault(method, Set.of())) {
+            boolean isCall = !Set.of("if", "for", "while", "switch").contains(next) && !open.contains(next);
+            List<String> path = isCall ? deepest(called, next, open) : List.of();
+            below = path.size() > below.size() ? new ArrayList<>(path) : below;
+        }
+        open.remove(open.size() - 1);
+        below.add(0, method);
+        return below;
     }
 }
